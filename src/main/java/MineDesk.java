@@ -361,10 +361,6 @@ public final class MineDesk {
             }
         }
 
-        boolean none() {
-            return (lo | hi) == 0L;
-        }
-
         int size() {
             return Long.bitCount(lo) + Long.bitCount(hi);
         }
@@ -393,7 +389,7 @@ public final class MineDesk {
         }
     }
 
-    /** Which cells there are, and which are neighbours. */
+    /** Which cells there are, and which are neighbours. Who calls sees to it that the sizes and cells fit. */
     private static final class Grid {
         final long[] nearLo = new long[CELLS];
         final long[] nearHi = new long[CELLS];
@@ -413,7 +409,6 @@ public final class MineDesk {
             return cell >= 0 && cell < cells;
         }
 
-        /** Who calls has seen that the board fits. */
         void lay(int columns, int rows, int form) {
             w = columns;
             h = rows;
@@ -489,7 +484,7 @@ public final class MineDesk {
         }
     }
 
-    /** A board: where the mines are, and what became of each cell. */
+    /** A board: where the mines are, and what became of each cell. Who calls sees to it that a cell is on it. */
     private static final class Board {
         final Grid grid = new Grid();
         final Bits all = new Bits();
@@ -498,10 +493,9 @@ public final class MineDesk {
         final Bits opened = new Bits();
         final Bits blown = new Bits();
         final Bits flags = new Bits();
-        private final Bits marks = new Bits();
+        private final Bits heaps = new Bits();
         private final int[] queue = new int[CELLS];
 
-        /** Who calls has seen that the board fits. */
         void start(int w, int h, int shape) {
             grid.lay(w, h, shape);
             all.clear();
@@ -581,26 +575,23 @@ public final class MineDesk {
             opened.add(cell);
         }
 
-        /** Those flagged as it begins stay out, even if their flags go on the way. */
+        /** A flag only goes as its cell is opened, so none that was there as it began is missed. */
         void uncoverAround(int cell) {
-            marks.copy(hidden);
-            marks.leave(flags);
             for (int i = 0; i < grid.degree[cell]; i++) {
                 int other = grid.near[cell * NEAR + i];
-                if (marks.has(other) && hidden.has(other)) {
+                if (hidden.has(other) && !flags.has(other)) {
                     uncover(other);
                 }
             }
         }
 
         int leastOpenings() {
-            Bits heaps = marks;
             heaps.clear();
             int openings = 0;
             for (int cell = 0; cell < grid.cells; cell++) {
                 if (isQuiet(cell) && !heaps.has(cell)) {
                     openings++;
-                    heapUp(cell, heaps);
+                    heapUp(cell);
                 }
             }
             for (int cell = 0; cell < grid.cells; cell++) {
@@ -616,7 +607,7 @@ public final class MineDesk {
             return hidden.has(cell) && !mines.has(cell) && !grid.touches(cell, mines);
         }
 
-        private void heapUp(int start, Bits heaps) {
+        private void heapUp(int start) {
             heaps.add(start);
             queue[0] = start;
             int tail = 1;

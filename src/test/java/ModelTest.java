@@ -203,13 +203,50 @@ public final class ModelTest {
         return wrong == 0;
     }
 
+    /** A small board with few cells open, where much hangs on TOTAL. */
+    private boolean runSmall() {
+        int w = 1 + draw.nextInt(6);
+        int h = 1 + draw.nextInt(4);
+        int shape = draw.nextInt(h % 2 == 0 ? 4 : 3);
+        same("blank(" + w + ", " + h + ", " + shape + ")", desk.blank(w, h, shape), slow.blank(w, h, shape));
+        int mines = draw.nextInt(1 + w * h);
+        for (int i = 0; i < mines; i++) {
+            edit();
+        }
+        int opened = 1 + draw.nextInt(4);
+        for (int i = 0; i < opened; i++) {
+            open();
+        }
+        int cell = cell();
+        same("with(" + cell + ")", desk.with(cell), slow.with(cell));
+        for (int i = 0; i < w * h && wrong == 0; i++) {
+            int hint = desk.hint(3);
+            same("hint(3)", hint, slow.hint(3));
+            compareHint();
+            if (hint > 0 && hint % 2 == 0) {
+                same("flag(" + (hint - 2) / 2 + ")", desk.flag((hint - 2) / 2), slow.flag((hint - 2) / 2));
+            } else if (hint > 0 && draw.nextInt(3) > 0) {
+                same("open(" + (hint - 1) / 2 + ")", desk.open((hint - 1) / 2), slow.open((hint - 1) / 2));
+            } else {
+                break;
+            }
+        }
+        same("ways()", desk.ways(), slow.ways());
+        return wrong == 0;
+    }
+
     public static void main(String[] args) {
         int failed = 0;
         int runs = args.length > 0 ? Integer.parseInt(args[0]) : RUNS;
         long base = args.length > 1 ? Long.parseLong(args[1]) : 0L;
         for (int seed = 0; seed < runs && failed < 3; seed++) {
             ModelTest test = new ModelTest(base + seed);
-            if (!test.run()) {
+            boolean fine = test.run();
+            for (int i = 0; i < 20 && fine; i++) {
+                test.story.setLength(0);
+                fine = test.runSmall();
+            }
+            if (!fine) {
                 failed++;
                 System.out.println("run " + (base + seed) + " differs:\n" + test.story);
             }

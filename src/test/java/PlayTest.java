@@ -169,6 +169,22 @@ public final class PlayTest {
         ask.due("undo(), refused calls are no moves", desk.undo(), MineDesk.STATE);
     }
 
+    private static void undoHits() {
+        ask.about("promise 12, hits all over the board");
+        MineDesk desk = Checks.board(10, 10, 0, 5, 15, 70, 80);
+        int[] hits = {5, 70, 15, 80};
+        for (int hit : hits) {
+            ask.due("open(" + hit + ")", desk.open(hit), MineDesk.HIT);
+        }
+        for (int left = 3; left >= 0; left--) {
+            ask.due("undo()", desk.undo(), 1);
+            ask.due("count(6)", desk.count(6), left);
+            for (int i = 0; i < 4; i++) {
+                ask.due("shown(" + hits[i] + ")", desk.shown(hits[i]), i < left ? 11 : 9);
+            }
+        }
+    }
+
     private static void undoKeepsHint() {
         ask.about("promise 12, the hint stays");
         MineDesk desk = Checks.board(4, 1, 0, 1);
@@ -241,6 +257,7 @@ public final class PlayTest {
         chords();
         wideChord();
         undoing();
+        undoHits();
         undoKeepsHint();
         solving();
         clicking();

@@ -274,6 +274,48 @@ public final class ReasonsTest {
         ask.due("check(17, 0), 15 cells", desk.check(17, 0), MineDesk.LONG);
     }
 
+    private static void checkAllMined() {
+        ask.about("promise 23, 13 and 14 mines");
+        MineDesk desk = Checks.board(6, 3, 0, 0, 1, 2, 3, 4, 5, 6, 8, 10, 11, 12, 13, 14, 15, 16, 17);
+        ask.due("open(7)", desk.open(7), 8);
+        ask.due("open(9)", desk.open(9), 8);
+        desk.tell(7, true);
+        desk.tell(9, true);
+        ask.due("check(16, 1)", desk.check(16, 1), 1);
+        ask.due("check(16, 0)", desk.check(16, 0), 0);
+        ask.due("check(5, 1)", desk.check(5, 1), 0);
+        ask.due("check(5, 0)", desk.check(5, 0), 0);
+        desk.name(true);
+        ask.due("check(5, 1), TOTAL", desk.check(5, 1), 1);
+        ask.due("check(5, 0), TOTAL", desk.check(5, 0), 0);
+    }
+
+    /** Nine open cells with eight mines around each, and 19 cells besides. */
+    private static void manyMines() {
+        ask.about("promises 16, 24 and 25, 72 mines");
+        MineDesk desk = Checks.board(10, 10, 0);
+        for (int cell = 0; cell < 100; cell++) {
+            boolean around = cell / 10 < 9 && cell % 10 < 9;
+            boolean middle = cell / 10 % 3 == 1 && cell % 10 % 3 == 1;
+            if (around && !middle) {
+                desk.edit(cell, true);
+                desk.flag(cell);
+            }
+        }
+        ask.due("count(3)", desk.count(3), 72);
+        for (int r = 1; r < 9; r += 3) {
+            for (int c = 1; c < 9; c += 3) {
+                ask.due("open()", desk.open(10 * r + c), 8);
+            }
+        }
+        ask.due("with(9)", desk.with(9), 0);
+        ask.due("with(0)", desk.with(0), 1);
+        ask.due("ways()", desk.ways(), 1);
+        ask.due("hint(2)", desk.hint(2), 0);
+        ask.due("hint(3)", desk.hint(3), 19);
+        ask.reasons(desk, 3, true, 11, 14, 17, 41, 44, 47, 71, 74, 77);
+    }
+
     private static int choose(int n, int k) {
         BigInteger ways = BigInteger.ONE;
         for (int i = 1; i <= k; i++) {
@@ -306,6 +348,31 @@ public final class ReasonsTest {
         ask.due("with(1), flagged", desk.with(1), choose(98, 48));
     }
 
+    private static void countingEdges() {
+        ask.about("promises 24 and 25, without another count ahead");
+        MineDesk desk = Checks.board(10, 1, 0, 0, 4, 5, 9);
+        desk.open(1);
+        desk.open(8);
+        ask.due("with(0)", desk.with(0), 12);
+        desk.undo();
+        ask.due("with(0)", desk.with(0), choose(7, 3));
+        desk.undo();
+        ask.due("with(0)", desk.with(0), choose(9, 3));
+        desk = Checks.board(10, 10, 2);
+        for (int cell = 0; cell < 100; cell++) {
+            desk.edit(cell, true);
+        }
+        ask.due("ways(), 100 of 100", desk.ways(), 1);
+        ask.due("with(99), 100 of 100", desk.with(99), 1);
+        ask.due("hint(3)", desk.hint(3), 2);
+        desk.edit(99, false);
+        ask.due("ways(), 99 of 100", desk.ways(), 100);
+        ask.due("with(99), 99 of 100", desk.with(99), 99);
+        desk = Checks.board(10, 10, 1);
+        ask.due("ways(), 0 of 100", desk.ways(), 1);
+        ask.due("with(0), 0 of 100", desk.with(0), 0);
+    }
+
     private static void countingParts() {
         ask.about("promises 24 and 25, two parts");
         // 0 and 2 about 1; 7 and 9 about 8; 3 to 6 are loose; 4 mines in all.
@@ -333,7 +400,10 @@ public final class ReasonsTest {
         checking();
         checkAllMines();
         checkLong();
+        checkAllMined();
+        manyMines();
         counting();
+        countingEdges();
         countingParts();
         ask.end();
     }
