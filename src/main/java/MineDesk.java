@@ -73,7 +73,7 @@ public final class MineDesk {
             return NUMBER;
         }
         maker.draw(mines, seed);
-        if (!maker.clear(grade)) {
+        if (!maker.mendToClear(grade)) {
             return 0;
         }
         board.start(w, h, shape);
@@ -1101,7 +1101,9 @@ public final class MineDesk {
         /** Cells that are blown or have the verdict mined. */
         private final Bits held = new Bits();
         private Board board;
+        /** Whether a verdict of rule 3 holds. */
         private boolean deep;
+        /** Whether the placements of the board were looked for since cells were opened, and were found. */
         private boolean studied;
         private boolean studiedWell;
 
@@ -1316,7 +1318,7 @@ public final class MineDesk {
         }
 
         /** Mends the board until it can be cleared; false if it is given up. */
-        boolean clear(int grade) {
+        boolean mendToClear(int grade) {
             mendings = 0;
             for (int round = 0; round <= MENDINGS; round++) {
                 if (play(grade)) {

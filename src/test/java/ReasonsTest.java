@@ -316,6 +316,42 @@ public final class ReasonsTest {
         ask.reasons(desk, 3, true, 11, 14, 17, 41, 44, 47, 71, 74, 77);
     }
 
+    /** 13, 16 and 23 see a mine each, at 17 or at 14, 15 and 24; 0 is apart; all else is blown. */
+    private static MineDesk oneOrThree(int... mines) {
+        MineDesk desk = Checks.board(5, 5, 0, mines);
+        for (int cell = 0; cell < 25; cell++) {
+            boolean kept = cell == 0 || cell >= 13 && cell <= 17 || cell >= 23;
+            if (!kept) {
+                desk.edit(cell, true);
+            }
+        }
+        for (int cell = 0; cell < 25; cell++) {
+            boolean kept = cell == 0 || cell >= 13 && cell <= 17 || cell >= 23;
+            if (!kept || cell == 13 || cell == 16 || cell == 23) {
+                desk.open(cell);
+            }
+        }
+        return desk;
+    }
+
+    private static void sumsWithGaps() {
+        ask.about("promise 16, one mine or three");
+        MineDesk desk = oneOrThree(14, 15, 24);
+        ask.due("hint(2)", desk.hint(2), 0);
+        ask.due("hint(3), three", desk.hint(3), 1);
+        ask.reasons(desk, 3, true, 13, 16, 23);
+        ask.due("ways()", desk.ways(), 1);
+        desk = oneOrThree(0, 17);
+        ask.due("hint(2)", desk.hint(2), 0);
+        ask.due("hint(3), one", desk.hint(3), 2);
+        ask.reasons(desk, 3, true, 13, 16, 23);
+        ask.due("with(0)", desk.with(0), 1);
+        desk = oneOrThree(17);
+        ask.due("hint(3), one, and none apart", desk.hint(3), 1);
+        desk = oneOrThree(0, 14, 15, 24);
+        ask.due("hint(3), three, and one apart", desk.hint(3), 2);
+    }
+
     private static int choose(int n, int k) {
         BigInteger ways = BigInteger.ONE;
         for (int i = 1; i <= k; i++) {
@@ -402,6 +438,7 @@ public final class ReasonsTest {
         checkLong();
         checkAllMined();
         manyMines();
+        sumsWithGaps();
         counting();
         countingEdges();
         countingParts();
