@@ -9,6 +9,12 @@ final class Checks {
         part = name;
     }
 
+    /** The calls from here on are about these words of a section of the document. */
+    void sentence(String section, String words) {
+        part = section + ", \"" + words + "\"";
+        due("the document says so", Doc.says(section, words), true);
+    }
+
     void due(String call, long got, long due) {
         asked++;
         if (got != due) {

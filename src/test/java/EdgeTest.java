@@ -1,12 +1,19 @@
+import java.util.ArrayList;
+import java.util.List;
 import java.util.Random;
 
-/** No call throws, for any arguments in any state; a call that is refused changes nothing. */
+/**
+ * Drawn calls with arguments of every kind: none throws, and a desk that was asked them all is as one that was
+ * asked only those that weren't refused.
+ */
 public final class EdgeTest {
     private static final int[] ODD = {
         Integer.MIN_VALUE, Integer.MIN_VALUE + 1, -128, -101, -100, -65, -64, -63, -11, -2, -1, 0, 1, 2, 3, 4, 7, 8, 9,
         10, 11, 12, 13, 14, 15, 50, 63, 64, 65, 98, 99, 100, 101, 127, 128, 200, 512, 1 << 16, Integer.MAX_VALUE - 1,
         Integer.MAX_VALUE,
     };
+    private static final int CALLS = 120;
+    private static final int RUNS = 3000;
     private static final Checks ask = new Checks();
     private static final Random draw = new Random(11);
 
@@ -14,55 +21,92 @@ public final class EdgeTest {
         return draw.nextInt(3) == 0 ? ODD[draw.nextInt(ODD.length)] : draw.nextInt(14);
     }
 
-    private static int call(MineDesk desk, int which) {
-        boolean on = draw.nextBoolean();
+    private static int cell() {
+        return any() * (1 + draw.nextInt(4));
+    }
+
+    private static int side() {
+        return draw.nextInt(6) == 0 ? any() : 1 + draw.nextInt(7);
+    }
+
+    private static int[] drawCall() {
+        int which = draw.nextInt(60);
+        int on = draw.nextInt(2);
         switch (which) {
-            case 0: return desk.blank(any(), any(), draw.nextInt(6) - 1);
-            case 1: return desk.edit(any() * (1 + draw.nextInt(9)), on);
-            case 2: return desk.make(any(), any(), any(), draw.nextInt(6) - 1, any(), draw.nextInt(5));
-            case 3: return desk.count(any());
-            case 4: return desk.neighbour(any(), any());
-            case 5: return desk.mined(any()) ? 1 : 0;
-            case 6: return desk.open(any() * (1 + draw.nextInt(9)));
-            case 7: return desk.flag(any() * (1 + draw.nextInt(9)));
-            case 8: return desk.chord(any() * (1 + draw.nextInt(9)));
-            case 9: return desk.undo();
-            case 10: return desk.shown(any());
-            case 11: return desk.hint(any());
-            case 12: return desk.reason(any());
-            case 13: return desk.take();
-            case 14: return desk.tell(any(), on);
-            case 15: return desk.name(on);
-            case 16: return desk.check(any(), draw.nextInt(4) - 1);
-            case 17: return desk.ways();
-            default: return desk.with(any());
+            case 0: return new int[] {0, side(), side(), draw.nextInt(6) - 1};
+            case 1: return new int[] {2, side(), side(), any(), draw.nextInt(6) - 1, any(), draw.nextInt(5)};
+            case 2: case 3: case 4: case 5: return new int[] {1, cell(), on};
+            case 6: case 7: return new int[] {3, any()};
+            case 8: return new int[] {4, cell(), any()};
+            case 9: return new int[] {5, cell()};
+            case 10: case 11: case 12: case 13: case 14: case 15: case 16: case 17: return new int[] {6, cell()};
+            case 18: case 19: case 20: case 21: case 22: case 23: return new int[] {7, cell()};
+            case 24: case 25: case 26: case 27: case 28: return new int[] {8, cell()};
+            case 29: case 30: case 31: return new int[] {9};
+            case 32: return new int[] {10, cell()};
+            case 33: case 34: case 35: case 36: case 37: return new int[] {11, draw.nextInt(5)};
+            case 38: return new int[] {11, any()};
+            case 39: return new int[] {12, any()};
+            case 40: case 41: return new int[] {13};
+            case 42: case 43: case 44: case 45: return new int[] {14, cell(), on};
+            case 46: case 47: return new int[] {15, on};
+            case 48: case 49: case 50: case 51: case 52: return new int[] {16, cell(), draw.nextInt(4) - 1};
+            case 53: return new int[] {16, cell(), any()};
+            case 54: case 55: case 56: return new int[] {17};
+            default: return new int[] {18, cell()};
         }
     }
 
-    /** All that a call can change, but for the told reasons, which can't be read without changing them. */
-    private static long state(MineDesk desk) {
-        long sum = desk.mended() * 31L + desk.kind() * 7L + (desk.total() ? 3L : 0L) + desk.clicks();
-        for (int what = 0; what < 8; what++) {
-            sum = sum * 131L + desk.count(what);
+    private static int call(MineDesk desk, int[] a) {
+        switch (a[0]) {
+            case 0: return desk.blank(a[1], a[2], a[3]);
+            case 1: return desk.edit(a[1], a[2] == 1);
+            case 2: return desk.make(a[1], a[2], a[3], a[4], a[5], a[6]);
+            case 3: return desk.count(a[1]);
+            case 4: return desk.neighbour(a[1], a[2]);
+            case 5: return desk.mined(a[1]) ? 1 : 0;
+            case 6: return desk.open(a[1]);
+            case 7: return desk.flag(a[1]);
+            case 8: return desk.chord(a[1]);
+            case 9: return desk.undo();
+            case 10: return desk.shown(a[1]);
+            case 11: return desk.hint(a[1]);
+            case 12: return desk.reason(a[1]);
+            case 13: return desk.take();
+            case 14: return desk.tell(a[1], a[2] == 1);
+            case 15: return desk.name(a[1] == 1);
+            case 16: return desk.check(a[1], a[2]);
+            case 17: return desk.ways();
+            default: return desk.with(a[1]);
         }
-        for (int cell = 0; cell < 100; cell++) {
-            sum = sum * 131L + desk.shown(cell) * 2L + (desk.mined(cell) ? 1L : 0L);
-            sum = sum * 131L + desk.reason(cell) + desk.neighbour(cell, 2);
+    }
+
+    private static void run(int run) {
+        MineDesk desk = new MineDesk();
+        List<int[]> taken = new ArrayList<>();
+        for (int i = 0; i < CALLS; i++) {
+            int[] a = drawCall();
+            int answer = call(desk, a);
+            boolean known = answer >= MineDesk.HIT && (answer != MineDesk.HIT || a[0] == 6);
+            ask.due("run " + run + ", an answer of the document", known, true);
+            if (answer >= 0 || answer == MineDesk.HIT) {
+                taken.add(a);
+            }
         }
-        return sum;
+        if (desk.count(0) * desk.count(1) > 49) {
+            return;
+        }
+        MineDesk twin = new MineDesk();
+        for (int[] a : taken) {
+            call(twin, a);
+        }
+        ask.due("run " + run + ", refused calls change nothing", Portrait.of(desk).equals(Portrait.of(twin)), true);
     }
 
     public static void main(String[] args) {
         ask.about("odd arguments");
-        for (int run = 0; run < 2000; run++) {
-            MineDesk desk = new MineDesk();
-            for (int i = 0; i < 100; i++) {
-                long before = state(desk);
-                int which = draw.nextInt(19);
-                int answer = call(desk, which);
-                boolean refused = answer < 0 && answer != MineDesk.HIT;
-                ask.due("run " + run + ", a refused call changes nothing", refused && state(desk) != before, false);
-            }
+        for (int run = 0; run < RUNS; run++) {
+            run(run);
         }
         ask.end();
     }

@@ -1,35 +1,54 @@
 import java.util.Random;
+import java.util.function.IntSupplier;
 
-/** Long runs of drawn calls, each answered by MineDesk and by SlowDesk, which must agree (promises 1 to 25). */
+/**
+ * Runs of drawn calls, each answered by MineDesk and by SlowDesk, which must agree (promises 1 to 25). What the next
+ * call is hangs on SlowDesk alone, so that each object has 512 calls at most, all of which are compared.
+ */
 public final class ModelTest {
     private static final int RUNS = 1500;
-    private static final int CALLS = 120;
+    private static final int SMALL_RUNS = 30_000;
+    private static final int CALLS = 512;
+    /** Calls that are kept to look at all that is shown at the end. */
+    private static final int LAST = 130;
 
     private final Random draw;
     private final MineDesk desk = new MineDesk();
     private final SlowDesk slow = new SlowDesk();
     private final StringBuilder story = new StringBuilder();
+    private int calls;
     private int wrong;
 
     private ModelTest(long seed) {
         draw = new Random(seed);
     }
 
-    private void same(String call, long got, long due) {
+    /** Asks both, as long as the object may be asked; what is due. */
+    private int same(String call, IntSupplier asked, IntSupplier model) {
+        if (calls >= CALLS || wrong > 0) {
+            return 0;
+        }
+        calls++;
+        int got = asked.getAsInt();
+        int due = model.getAsInt();
         story.append(call).append(" -> ").append(got).append('\n');
         if (got != due) {
             wrong++;
             story.append("    due is ").append(due).append('\n');
         }
+        return due;
     }
 
-    private static long bit(boolean b) {
-        return b ? 1L : 0L;
+    private static int bit(boolean b) {
+        return b ? 1 : 0;
+    }
+
+    private int cells() {
+        return slow.count(0) * slow.count(1);
     }
 
     private int cell() {
-        int cells = desk.count(0) * desk.count(1);
-        return draw.nextInt(25) == 0 ? draw.nextInt(5) * 60 - 60 : draw.nextInt(cells);
+        return draw.nextInt(25) == 0 ? draw.nextInt(5) * 60 - 60 : draw.nextInt(cells());
     }
 
     private int side(int most) {
@@ -42,9 +61,8 @@ public final class ModelTest {
         int h = side(most);
         int shape = draw.nextInt(40) == 0 ? draw.nextInt(7) - 2 : draw.nextInt(4);
         if (draw.nextInt(3) == 0) {
-            same("blank(" + w + ", " + h + ", " + shape + ")", desk.blank(w, h, shape), slow.blank(w, h, shape));
-            int cells = desk.count(0) * desk.count(1);
-            int edits = draw.nextInt(1 + cells / 3);
+            blank(w, h, shape);
+            int edits = draw.nextInt(1 + cells() / 3);
             for (int i = 0; i < edits; i++) {
                 edit();
             }
@@ -55,116 +73,139 @@ public final class ModelTest {
         int seed = draw.nextInt(4) == 0 ? draw.nextInt(50) : draw.nextInt();
         int grade = draw.nextInt(30) == 0 ? draw.nextInt(8) - 2 : 1 + draw.nextInt(3);
         String call = "make(" + w + ", " + h + ", " + mines + ", " + shape + ", " + seed + ", " + grade + ")";
-        same(call, desk.make(w, h, mines, shape, seed, grade), slow.make(w, h, mines, shape, seed, grade));
-        same("mended()", desk.mended(), slow.mended());
+        same(call, () -> desk.make(w, h, mines, shape, seed, grade), () -> slow.make(w, h, mines, shape, seed, grade));
+        same("mended()", desk::mended, slow::mended);
+    }
+
+    private void blank(int w, int h, int shape) {
+        same("blank(" + w + ", " + h + ", " + shape + ")", () -> desk.blank(w, h, shape), () -> slow.blank(w, h, shape));
     }
 
     private void edit() {
         int cell = cell();
         boolean mined = draw.nextInt(5) > 0;
-        same("edit(" + cell + ", " + mined + ")", desk.edit(cell, mined), slow.edit(cell, mined));
+        same("edit(" + cell + ", " + mined + ")", () -> desk.edit(cell, mined), () -> slow.edit(cell, mined));
     }
 
-    private void open() {
+    private void open(int cell) {
+        same("open(" + cell + ")", () -> desk.open(cell), () -> slow.open(cell));
+    }
+
+    private void flag(int cell) {
+        same("flag(" + cell + ")", () -> desk.flag(cell), () -> slow.flag(cell));
+    }
+
+    private void openOne() {
         int cell = cell();
         // Mostly a safe one, so that runs see more than blown cells.
-        for (int i = 0; i < 4 && desk.mined(cell); i++) {
+        for (int i = 0; i < 4 && slow.mined(cell); i++) {
             cell = cell();
         }
-        same("open(" + cell + ")", desk.open(cell), slow.open(cell));
+        open(cell);
     }
 
-    private void flag() {
+    private void flagOne() {
         int cell = cell();
-        for (int i = 0; i < 6 && !desk.mined(cell); i++) {
+        for (int i = 0; i < 6 && !slow.mined(cell); i++) {
             cell = cell();
         }
-        same("flag(" + cell + ")", desk.flag(cell), slow.flag(cell));
+        flag(cell);
     }
 
     private void chord() {
-        int cell = cell();
-        for (int i = 0; i < 10 && desk.shown(cell) > 8; i++) {
-            cell = cell();
+        int drawn = cell();
+        for (int i = 0; i < 10 && slow.shown(drawn) > 8; i++) {
+            drawn = cell();
         }
-        same("chord(" + cell + ")", desk.chord(cell), slow.chord(cell));
+        int cell = drawn;
+        same("chord(" + cell + ")", () -> desk.chord(cell), () -> slow.chord(cell));
     }
 
-    private void hint() {
-        int grade = draw.nextInt(20) == 0 ? draw.nextInt(6) - 1 : 1 + draw.nextInt(3);
-        int hint = desk.hint(grade);
-        same("hint(" + grade + ")", hint, slow.hint(grade));
+    private void check(int cell, int verdict) {
+        same("check(" + cell + ", " + verdict + ")", () -> desk.check(cell, verdict), () -> slow.check(cell, verdict));
+    }
+
+    private int hint(int grade) {
+        int hint = same("hint(" + grade + ")", () -> desk.hint(grade), () -> slow.hint(grade));
         compareHint();
+        return hint;
+    }
+
+    private void hintAndAct() {
+        int hint = hint(draw.nextInt(20) == 0 ? draw.nextInt(6) - 1 : 1 + draw.nextInt(3));
         if (hint > 0 && draw.nextInt(2) == 0) {
-            int cell = (hint - 1) / 2;
-            int verdict = (hint - 1) % 2;
-            same("take()", desk.take(), slow.take());
-            same("check(" + cell + ", " + verdict + ")", desk.check(cell, verdict), slow.check(cell, verdict));
+            same("take()", desk::take, slow::take);
+            check((hint - 1) / 2, (hint - 1) % 2);
         }
         if (hint > 0 && draw.nextInt(4) > 0) {
-            int cell = (hint - 1) / 2;
             if (hint % 2 == 0) {
-                same("flag(" + cell + ")", desk.flag(cell), slow.flag(cell));
+                flag((hint - 2) / 2);
             } else {
-                same("open(" + cell + ")", desk.open(cell), slow.open(cell));
+                open((hint - 1) / 2);
             }
         }
     }
 
     private void compareHint() {
-        same("kind()", desk.kind(), slow.kind());
-        same("total()", bit(desk.total()), bit(slow.total()));
-        for (int i = -1; i < 101; i++) {
-            int got = desk.reason(i);
-            if (got != slow.reason(i) || got >= 0) {
-                same("reason(" + i + ")", got, slow.reason(i));
-            }
+        same("kind()", desk::kind, slow::kind);
+        same("total()", () -> bit(desk.total()), () -> bit(slow.total()));
+        boolean more = true;
+        for (int i = 0; more; i++) {
+            int at = i;
+            same("reason(" + at + ")", () -> desk.reason(at), () -> slow.reason(at));
+            more = slow.reason(at) >= 0;
         }
     }
 
-    private void told() {
+    private void tellAndCheck() {
         boolean on = draw.nextInt(4) > 0;
         if (draw.nextInt(4) == 0) {
-            same("name(" + on + ")", desk.name(on), slow.name(on));
+            same("name(" + on + ")", () -> desk.name(on), () -> slow.name(on));
         } else if (draw.nextInt(6) == 0) {
-            same("take()", desk.take(), slow.take());
+            same("take()", desk::take, slow::take);
         } else {
             int cell = cell();
-            same("tell(" + cell + ", " + on + ")", desk.tell(cell, on), slow.tell(cell, on));
+            same("tell(" + cell + ", " + on + ")", () -> desk.tell(cell, on), () -> slow.tell(cell, on));
         }
-        int cell = cell();
-        int verdict = draw.nextInt(20) == 0 ? draw.nextInt(5) - 1 : draw.nextInt(2);
-        same("check(" + cell + ", " + verdict + ")", desk.check(cell, verdict), slow.check(cell, verdict));
+        check(cell(), draw.nextInt(20) == 0 ? draw.nextInt(5) - 1 : draw.nextInt(2));
     }
 
-    private void placements() {
-        same("ways()", desk.ways(), slow.ways());
-        int cell = cell();
-        same("with(" + cell + ")", desk.with(cell), slow.with(cell));
+    private void with(int cell) {
+        same("with(" + cell + ")", () -> desk.with(cell), () -> slow.with(cell));
     }
 
-    private void compareAll() {
-        for (int what = -2; what < 10; what++) {
-            same("count(" + what + ")", desk.count(what), slow.count(what));
+    private void shown(int cell) {
+        same("shown(" + cell + ")", () -> desk.shown(cell), () -> slow.shown(cell));
+    }
+
+    private void look() {
+        int cell = cell();
+        int small = draw.nextInt(12) - 2;
+        switch (draw.nextInt(8)) {
+            case 0:
+                same("count(" + small + ")", () -> desk.count(small), () -> slow.count(small));
+                break;
+            case 1:
+                same("neighbour(" + cell + ", " + small + ")", () -> desk.neighbour(cell, small), () -> slow.neighbour(cell, small));
+                break;
+            case 2:
+                same("mined(" + cell + ")", () -> bit(desk.mined(cell)), () -> bit(slow.mined(cell)));
+                break;
+            case 3:
+                same("solved()", () -> bit(desk.solved()), () -> bit(slow.solved()));
+                break;
+            case 4:
+                same("clicks()", desk::clicks, slow::clicks);
+                break;
+            case 5:
+                same("reason(" + small + ")", () -> desk.reason(small), () -> slow.reason(small));
+                break;
+            case 6:
+                same("mended()", desk::mended, slow::mended);
+                break;
+            default:
+                shown(cell);
         }
-        for (int cell = -2; cell < 103; cell++) {
-            int shown = desk.shown(cell);
-            if (shown != slow.shown(cell)) {
-                same("shown(" + cell + ")", shown, slow.shown(cell));
-            }
-            if (desk.mined(cell) != slow.mined(cell)) {
-                same("mined(" + cell + ")", bit(desk.mined(cell)), bit(slow.mined(cell)));
-            }
-            for (int i = -1; i < 10; i++) {
-                if (desk.neighbour(cell, i) != slow.neighbour(cell, i)) {
-                    same("neighbour(" + cell + ", " + i + ")", desk.neighbour(cell, i), slow.neighbour(cell, i));
-                }
-            }
-        }
-        same("solved()", bit(desk.solved()), bit(slow.solved()));
-        same("clicks()", desk.clicks(), slow.clicks());
-        same("mended()", desk.mended(), slow.mended());
-        compareHint();
     }
 
     private void step() {
@@ -174,32 +215,44 @@ public final class ModelTest {
         } else if (what < 6) {
             edit();
         } else if (what < 24) {
-            open();
+            openOne();
         } else if (what < 34) {
-            flag();
+            flagOne();
         } else if (what < 46) {
             chord();
         } else if (what < 54) {
-            same("undo()", desk.undo(), slow.undo());
+            same("undo()", desk::undo, slow::undo);
         } else if (what < 76) {
-            hint();
+            hintAndAct();
         } else if (what < 90) {
-            told();
+            tellAndCheck();
         } else {
-            placements();
+            same("ways()", desk::ways, slow::ways);
+            with(cell());
         }
+        look();
     }
 
     private boolean run() {
-        compareAll();
         start();
-        for (int i = 0; i < CALLS && wrong == 0; i++) {
-            step();
-            if (i % 8 == 7) {
-                compareAll();
-            }
+        // Some runs come to 200 moves.
+        int flags = draw.nextInt(10) == 0 ? 170 + draw.nextInt(35) : 0;
+        for (int i = 0; i < flags; i++) {
+            flagOne();
         }
-        compareAll();
+        while (wrong == 0 && calls < CALLS - LAST) {
+            step();
+        }
+        for (int what = 0; what < 8; what++) {
+            int one = what;
+            same("count(" + one + ")", () -> desk.count(one), () -> slow.count(one));
+        }
+        for (int cell = 0; cell < cells(); cell++) {
+            shown(cell);
+        }
+        while (wrong == 0 && calls < CALLS) {
+            look();
+        }
         return wrong == 0;
     }
 
@@ -207,31 +260,31 @@ public final class ModelTest {
     private boolean runSmall() {
         int w = 1 + draw.nextInt(6);
         int h = 1 + draw.nextInt(4);
-        int shape = draw.nextInt(h % 2 == 0 ? 4 : 3);
-        same("blank(" + w + ", " + h + ", " + shape + ")", desk.blank(w, h, shape), slow.blank(w, h, shape));
+        blank(w, h, draw.nextInt(h % 2 == 0 ? 4 : 3));
         int mines = draw.nextInt(1 + w * h);
         for (int i = 0; i < mines; i++) {
             edit();
         }
         int opened = 1 + draw.nextInt(4);
         for (int i = 0; i < opened; i++) {
-            open();
+            openOne();
         }
-        int cell = cell();
-        same("with(" + cell + ")", desk.with(cell), slow.with(cell));
+        with(cell());
         for (int i = 0; i < w * h && wrong == 0; i++) {
-            int hint = desk.hint(3);
-            same("hint(3)", hint, slow.hint(3));
-            compareHint();
+            int hint = hint(3);
             if (hint > 0 && hint % 2 == 0) {
-                same("flag(" + (hint - 2) / 2 + ")", desk.flag((hint - 2) / 2), slow.flag((hint - 2) / 2));
+                flag((hint - 2) / 2);
             } else if (hint > 0 && draw.nextInt(3) > 0) {
-                same("open(" + (hint - 1) / 2 + ")", desk.open((hint - 1) / 2), slow.open((hint - 1) / 2));
+                open((hint - 1) / 2);
             } else {
                 break;
             }
         }
-        same("ways()", desk.ways(), slow.ways());
+        same("ways()", desk::ways, slow::ways);
+        same("clicks()", desk::clicks, slow::clicks);
+        for (int i = 0; i < 10; i++) {
+            tellAndCheck();
+        }
         return wrong == 0;
     }
 
@@ -239,19 +292,15 @@ public final class ModelTest {
         int failed = 0;
         int runs = args.length > 0 ? Integer.parseInt(args[0]) : RUNS;
         long base = args.length > 1 ? Long.parseLong(args[1]) : 0L;
-        for (int seed = 0; seed < runs && failed < 3; seed++) {
-            ModelTest test = new ModelTest(base + seed);
-            boolean fine = test.run();
-            for (int i = 0; i < 20 && fine; i++) {
-                test.story.setLength(0);
-                fine = test.runSmall();
-            }
-            if (!fine) {
+        int small = args.length > 0 ? 20 * runs : SMALL_RUNS;
+        for (int i = 0; i < runs + small && failed < 3; i++) {
+            ModelTest test = new ModelTest(base + i);
+            if (!(i < runs ? test.run() : test.runSmall())) {
                 failed++;
-                System.out.println("run " + (base + seed) + " differs:\n" + test.story);
+                System.out.println("run " + (base + i) + " differs:\n" + test.story);
             }
         }
-        System.out.println(failed == 0 ? runs + " runs are as due" : "some runs differ");
+        System.out.println(failed == 0 ? runs + " runs and " + small + " small ones are as due" : "some runs differ");
         System.exit(failed == 0 ? 0 : 1);
     }
 }
