@@ -2,8 +2,6 @@
 public final class BoardEdgesTest {
     private static final int MIN = Integer.MIN_VALUE;
     private static final int MAX = Integer.MAX_VALUE;
-    /** No cell of a board of any size. */
-    private static final int[] NO_CELLS = {-1, -2, -63, -64, -65, -100, -128, 100, 101, 127, 128, 164, 256, 1 << 16, MIN, MIN + 1, MAX};
     private static final Checks ask = new Checks();
 
     private static void blank(int w, int h, int shape, int due) {
@@ -233,20 +231,9 @@ public final class BoardEdgesTest {
         ask.due("solved()", desk.solved(), true);
     }
 
-    /** A line with a mine, opened and flagged, with a hint and told reasons. */
-    private static MineDesk used() {
-        MineDesk desk = Checks.board(4, 1, 0, 1);
-        desk.open(0);
-        desk.flag(1);
-        desk.hint(3);
-        desk.take();
-        desk.tell(3, true);
-        return desk;
-    }
-
     private static void blankForgets() {
         ask.sentence("Promise 2", "The BOARD is new, without mines: how many cells.");
-        MineDesk desk = used();
+        MineDesk desk = Checks.used();
         ask.due("blank(4, 1, 0), as before", desk.blank(4, 1, 0), 4);
         ask.mines(desk);
         ask.shown(desk, "....");
@@ -269,7 +256,7 @@ public final class BoardEdgesTest {
         for (int cell = 0; cell < 100; cell++) {
             ask.due("shown(" + cell + "), a BLOWN board ahead of it", desk.shown(cell), 9);
         }
-        desk = used();
+        desk = Checks.used();
         desk.blank(2, 1, 0);
         desk.blank(4, 1, 0);
         ask.due("tell(3, false), on a smaller board between", desk.tell(3, false), 0);
@@ -278,7 +265,7 @@ public final class BoardEdgesTest {
 
     private static void editNumbers() {
         ask.sentence("Promise 3", "NUMBER: there is no such cell");
-        for (int cell : NO_CELLS) {
+        for (int cell : Checks.NO_CELLS) {
             MineDesk desk = Checks.board(10, 10, 0, 0);
             ask.due("edit(" + cell + ", true)", desk.edit(cell, true), MineDesk.NUMBER);
             ask.due("edit(" + cell + ", false)", desk.edit(cell, false), MineDesk.NUMBER);
@@ -386,7 +373,7 @@ public final class BoardEdgesTest {
             ask.due("neighbour(19, " + i + ")", desk.neighbour(19, i), MineDesk.NUMBER);
         }
         ask.due("neighbour(20, 0), 20 cells", desk.neighbour(20, 0), MineDesk.NUMBER);
-        for (int cell : NO_CELLS) {
+        for (int cell : Checks.NO_CELLS) {
             ask.due("neighbour(" + cell + ", 0)", desk.neighbour(cell, 0), MineDesk.NUMBER);
             ask.due("neighbour(" + cell + ", -1)", desk.neighbour(cell, -1), MineDesk.NUMBER);
         }
@@ -402,7 +389,7 @@ public final class BoardEdgesTest {
         for (int cell = 0; cell < 100; cell++) {
             desk.edit(cell, true);
         }
-        for (int cell : NO_CELLS) {
+        for (int cell : Checks.NO_CELLS) {
             ask.due("mined(" + cell + ")", desk.mined(cell), false);
         }
         ask.due("mined(0)", desk.mined(0), true);

@@ -1,5 +1,10 @@
 /** Counts and prints the calls whose answer isn't the one that is due. */
 final class Checks {
+    /** No cells of a board of any size. */
+    static final int[] NO_CELLS = {
+        -1, -2, -63, -64, -65, -100, -128, 100, 101, 127, 128, 164, 256, 1 << 16, Integer.MIN_VALUE, Integer.MIN_VALUE + 1,
+        Integer.MAX_VALUE,
+    };
     private String part = "";
     private int asked;
     private int wrong;
@@ -82,6 +87,24 @@ final class Checks {
         for (int mine : mines) {
             desk.edit(mine, true);
         }
+        return desk;
+    }
+
+    /** The desk, after some cells were opened. */
+    static MineDesk opened(MineDesk desk, int... cells) {
+        for (int cell : cells) {
+            desk.open(cell);
+        }
+        return desk;
+    }
+
+    /** A line with a mine, opened and flagged, with a hint, and told reasons of which TOTAL is one. */
+    static MineDesk used() {
+        MineDesk desk = opened(board(4, 1, 0, 1), 0);
+        desk.flag(1);
+        desk.hint(3);
+        desk.take();
+        desk.tell(3, true);
         return desk;
     }
 }

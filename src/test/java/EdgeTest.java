@@ -12,6 +12,8 @@ public final class EdgeTest {
         10, 11, 12, 13, 14, 15, 50, 63, 64, 65, 98, 99, 100, 101, 127, 128, 200, 512, 1 << 16, Integer.MAX_VALUE - 1,
         Integer.MAX_VALUE,
     };
+    /** The kinds of calls, by the letters from a on; one that stands more often is drawn more often. */
+    private static final String OFTEN = "abbbbcddefgggggggghhhhhhiiiiijjjkllllllmnnooooppqqqqqqrrrsss";
     private static final int CALLS = 120;
     private static final int RUNS = 3000;
     private static final Checks ask = new Checks();
@@ -30,30 +32,18 @@ public final class EdgeTest {
     }
 
     private static int[] drawCall() {
-        int which = draw.nextInt(60);
+        int at = draw.nextInt(OFTEN.length());
         int on = draw.nextInt(2);
-        switch (which) {
-            case 0: return new int[] {0, side(), side(), draw.nextInt(6) - 1};
-            case 1: return new int[] {2, side(), side(), any(), draw.nextInt(6) - 1, any(), draw.nextInt(5)};
-            case 2: case 3: case 4: case 5: return new int[] {1, cell(), on};
-            case 6: case 7: return new int[] {3, any()};
-            case 8: return new int[] {4, cell(), any()};
-            case 9: return new int[] {5, cell()};
-            case 10: case 11: case 12: case 13: case 14: case 15: case 16: case 17: return new int[] {6, cell()};
-            case 18: case 19: case 20: case 21: case 22: case 23: return new int[] {7, cell()};
-            case 24: case 25: case 26: case 27: case 28: return new int[] {8, cell()};
-            case 29: case 30: case 31: return new int[] {9};
-            case 32: return new int[] {10, cell()};
-            case 33: case 34: case 35: case 36: case 37: return new int[] {11, draw.nextInt(5)};
-            case 38: return new int[] {11, any()};
-            case 39: return new int[] {12, any()};
-            case 40: case 41: return new int[] {13};
-            case 42: case 43: case 44: case 45: return new int[] {14, cell(), on};
-            case 46: case 47: return new int[] {15, on};
-            case 48: case 49: case 50: case 51: case 52: return new int[] {16, cell(), draw.nextInt(4) - 1};
-            case 53: return new int[] {16, cell(), any()};
-            case 54: case 55: case 56: return new int[] {17};
-            default: return new int[] {18, cell()};
+        int kind = OFTEN.charAt(at) - 'a';
+        switch (kind) {
+            case 0: return new int[] {kind, side(), side(), draw.nextInt(6) - 1};
+            case 2: return new int[] {kind, side(), side(), any(), draw.nextInt(6) - 1, any(), draw.nextInt(5)};
+            case 4: return new int[] {kind, cell(), any()};
+            case 3: case 12: return new int[] {kind, any()};
+            case 11: return new int[] {kind, draw.nextInt(5) == 0 ? any() : draw.nextInt(5)};
+            case 15: return new int[] {kind, on};
+            case 16: return new int[] {kind, cell(), draw.nextInt(5) == 0 ? any() : draw.nextInt(4) - 1};
+            default: return new int[] {kind, cell(), on};
         }
     }
 

@@ -249,39 +249,28 @@ public final class MakeEdgesTest {
         }
     }
 
-    /** A line with a mine, opened and flagged, with a hint and told reasons. */
-    private static MineDesk used() {
-        MineDesk desk = Checks.board(4, 1, 0, 1);
-        desk.open(0);
-        desk.flag(1);
-        desk.hint(3);
-        desk.take();
-        desk.tell(3, true);
-        return desk;
-    }
-
     private static void givenUp() {
         ask.sentence("Promise 4", "0 if it is given up (all but what mended() tells is as ahead of the call then)");
-        String before = Portrait.of(used());
-        MineDesk desk = used();
+        String before = Portrait.of(Checks.used());
+        MineDesk desk = Checks.used();
         ask.due("make(2, 6, 1, 0, 1, 1)", desk.make(2, 6, 1, 0, 1, 1), 0);
         ask.due("mended()", desk.mended(), 1);
         ask.due("hint(3), as ahead of the call", desk.hint(3), 5);
         ask.due("ways(), as ahead of the call", desk.ways(), 1);
         ask.due("neighbour(3, 0), as ahead of the call", desk.neighbour(3, 0), 2);
         ask.due("all else", Portrait.of(desk).replace("mended 1", "mended 0").equals(before), true);
-        desk = used();
+        desk = Checks.used();
         ask.due("make(10, 10, 24, 0, 58736, 2)", desk.make(10, 10, 24, 0, 58736, 2), 0);
         ask.due("all else", Portrait.of(desk).replace("mended 40", "mended 0").equals(before), true);
     }
 
     private static void forgets() {
         ask.sentence("Promise 4", "If it is made, moves, the HINT and the told reasons are forgotten.");
-        MineDesk desk = used();
+        MineDesk desk = Checks.used();
         ask.due("make(4, 1, 1, 0, 1, 1)", desk.make(4, 1, 1, 0, 1, 1), 1);
         String due = "counts 4 1 0 1 0 0 0 0 mended 0 kind 0 reasons told cells m9 9 9 9 back";
         ask.due("nothing else is left", Portrait.of(desk).equals(due), true);
-        desk = used();
+        desk = Checks.used();
         desk.make(4, 1, 1, 0, 1, 1);
         ask.due("undo()", desk.undo(), MineDesk.STATE);
         ask.due("take()", desk.take(), 0);

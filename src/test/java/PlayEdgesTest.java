@@ -1,9 +1,5 @@
 /** The sentences of part 1 of the terms about opening, and those of promises 9 to 15, that name a boundary case. */
 public final class PlayEdgesTest {
-    private static final int MIN = Integer.MIN_VALUE;
-    private static final int MAX = Integer.MAX_VALUE;
-    /** No cell of a board of any size. */
-    private static final int[] NO_CELLS = {-1, -2, -64, -65, -100, -128, 100, 101, 127, 128, 164, 256, 1 << 16, MIN, MAX};
     private static final Checks ask = new Checks();
 
     /** A board of 5 by 1 with a mine at 2 and so many moves, all of them at cell 4. */
@@ -64,7 +60,7 @@ public final class PlayEdgesTest {
     private static void openNumbers() {
         ask.sentence("Promise 9", "NUMBER: there is no such cell");
         MineDesk desk = Checks.board(10, 10, 0, 50);
-        for (int cell : NO_CELLS) {
+        for (int cell : Checks.NO_CELLS) {
             ask.due("open(" + cell + ")", desk.open(cell), MineDesk.NUMBER);
         }
         ask.due("count(7)", desk.count(7), 0);
@@ -133,7 +129,7 @@ public final class PlayEdgesTest {
     private static void flagNumbers() {
         ask.sentence("Promise 10", "NUMBER: there is no such cell");
         MineDesk desk = Checks.board(10, 10, 0, 50);
-        for (int cell : NO_CELLS) {
+        for (int cell : Checks.NO_CELLS) {
             ask.due("flag(" + cell + ")", desk.flag(cell), MineDesk.NUMBER);
         }
         ask.due("count(5)", desk.count(5), 0);
@@ -180,7 +176,7 @@ public final class PlayEdgesTest {
     private static void chordNumbers() {
         ask.sentence("Promise 11", "NUMBER: there is no such cell");
         MineDesk desk = Checks.board(10, 10, 0, 50);
-        for (int cell : NO_CELLS) {
+        for (int cell : Checks.NO_CELLS) {
             ask.due("chord(" + cell + ")", desk.chord(cell), MineDesk.NUMBER);
         }
         desk.blank(3, 2, 0);
@@ -430,38 +426,31 @@ public final class PlayEdgesTest {
         desk.flag(4);
         desk.open(4);
         ask.shown(desk, "*...8....");
-        ask.due("shown(0), NUMBER 0", opened(Checks.board(1, 1, 0), 0).shown(0), 0);
+        ask.due("shown(0), NUMBER 0", Checks.opened(Checks.board(1, 1, 0), 0).shown(0), 0);
         ask.sentence("Promise 13", "NUMBER: there is no such cell.");
         ask.due("shown(9), 9 cells", desk.shown(9), MineDesk.NUMBER);
         desk.blank(10, 10, 0);
-        for (int cell : NO_CELLS) {
+        for (int cell : Checks.NO_CELLS) {
             ask.due("shown(" + cell + ")", desk.shown(cell), MineDesk.NUMBER);
         }
         ask.due("shown(99)", desk.shown(99), 9);
-    }
-
-    private static MineDesk opened(MineDesk desk, int... cells) {
-        for (int cell : cells) {
-            desk.open(cell);
-        }
-        return desk;
     }
 
     private static void solves() {
         ask.sentence("Terms", "The BOARD is SOLVED if no cell that isn't MINED is HIDDEN.");
         ask.sentence("Promise 14", "Whether the BOARD is SOLVED.");
         ask.due("solved(), no mine, all HIDDEN", Checks.board(3, 3, 0).solved(), false);
-        ask.due("solved(), no mine, all OPEN", opened(Checks.board(3, 3, 0), 0).solved(), true);
+        ask.due("solved(), no mine, all OPEN", Checks.opened(Checks.board(3, 3, 0), 0).solved(), true);
         ask.due("solved(), mines alone, all HIDDEN", Checks.board(1, 1, 0, 0).solved(), true);
-        ask.due("solved(), mines alone, BLOWN", opened(Checks.board(1, 1, 0, 0), 0).solved(), true);
+        ask.due("solved(), mines alone, BLOWN", Checks.opened(Checks.board(1, 1, 0, 0), 0).solved(), true);
         MineDesk desk = Checks.board(3, 1, 0, 1);
-        ask.due("solved(), one of two", opened(desk, 0).solved(), false);
+        ask.due("solved(), one of two", Checks.opened(desk, 0).solved(), false);
         desk.flag(1);
         desk.flag(2);
         ask.due("solved(), the other one is FLAGGED", desk.solved(), false);
         desk.flag(2);
         desk.flag(1);
-        ask.due("solved(), two of two, the mine isn't FLAGGED", opened(desk, 2).solved(), true);
+        ask.due("solved(), two of two, the mine isn't FLAGGED", Checks.opened(desk, 2).solved(), true);
         desk.open(1);
         ask.due("solved(), the mine is BLOWN", desk.solved(), true);
         desk.undo();
@@ -470,7 +459,7 @@ public final class PlayEdgesTest {
         desk = Checks.board(10, 10, 0, 62, 98);
         desk.open(0);
         ask.due("solved(), 99 is left", desk.solved(), false);
-        ask.due("solved()", opened(desk, 99).solved(), true);
+        ask.due("solved()", Checks.opened(desk, 99).solved(), true);
     }
 
     private static void clickHeaps() {
@@ -479,7 +468,7 @@ public final class PlayEdgesTest {
         ask.due("clicks(), mines alone", Checks.board(2, 1, 0, 0, 1).clicks(), 0);
         ask.due("clicks(), one cell", Checks.board(1, 1, 0).clicks(), 1);
         ask.due("clicks(), a mine whose own NUMBER is 0", Checks.board(1, 1, 0, 0).clicks(), 0);
-        ask.due("clicks(), SOLVED", opened(Checks.board(4, 4, 0), 0).clicks(), 0);
+        ask.due("clicks(), SOLVED", Checks.opened(Checks.board(4, 4, 0), 0).clicks(), 0);
         // 0, 1, 4, 5 and 10, 11, 14, 15 hang together by 5 and 10 alone.
         ask.due("clicks(), by a corner", Checks.board(4, 4, 0, 3, 12).clicks(), 1);
         ask.due("clicks(), two heaps", Checks.board(5, 1, 0, 2).clicks(), 2);
@@ -503,7 +492,7 @@ public final class PlayEdgesTest {
     private static void clickOthers() {
         ask.sentence("Promise 15", "and one for each other HIDDEN cell that isn't MINED and has no NEIGHBOUR in a heap");
         ask.due("clicks(), no heap", Checks.board(3, 3, 0, 4).clicks(), 8);
-        ask.due("clicks(), no heap around a BLOWN one", opened(Checks.board(3, 3, 0, 4), 4).clicks(), 8);
+        ask.due("clicks(), no heap around a BLOWN one", Checks.opened(Checks.board(3, 3, 0, 4), 4).clicks(), 8);
         // The heaps 0 and 4; 1, 3 and 5 are beside them, 7 and 9 beside none.
         MineDesk desk = Checks.board(10, 1, 0, 2, 6, 8);
         ask.due("clicks()", desk.clicks(), 4);

@@ -4,16 +4,7 @@ import java.math.BigInteger;
 public final class ReasonEdgesTest {
     private static final int MIN = Integer.MIN_VALUE;
     private static final int MAX = Integer.MAX_VALUE;
-    /** No cell of a board of any size. */
-    private static final int[] NO_CELLS = {-1, -2, -64, -65, -100, -128, 100, 101, 127, 128, 164, 256, 1 << 16, MIN, MAX};
     private static final Checks ask = new Checks();
-
-    private static MineDesk opened(MineDesk desk, int... cells) {
-        for (int cell : cells) {
-            desk.open(cell);
-        }
-        return desk;
-    }
 
     private static void told(MineDesk desk, boolean total, int... cells) {
         desk.name(total);
@@ -84,7 +75,7 @@ public final class ReasonEdgesTest {
         for (int cell = 0; cell < 6; cell++) {
             desk.edit(cell, true);
         }
-        opened(desk, 6, 7, 8, 9, 10, 11);
+        Checks.opened(desk, 6, 7, 8, 9, 10, 11);
         ask.due("ways(), 12 cells and 24 apart", desk.ways(), 64);
         ask.due("with(41), 12 cells and 24 apart", desk.with(41), 0);
     }
@@ -118,15 +109,15 @@ public final class ReasonEdgesTest {
         desk = twoRows(5, 1, 3);
         ask.due("ways(), one part of 18 cells", desk.ways(), MineDesk.LONG);
         // On a ring the rows at both ends are side by side: 5 and 0 have no OPEN NEIGHBOUR in common, 4 and 0 of five rows have.
-        desk = opened(Checks.board(10, 1, 1, 0, 5), 1, 4);
+        desk = Checks.opened(Checks.board(10, 1, 1, 0, 5), 1, 4);
         ask.due("ways(), 0, 2 and 3, 5", desk.ways(), 4);
-        desk = opened(Checks.board(10, 1, 1, 0, 5), 1, 9);
+        desk = Checks.opened(Checks.board(10, 1, 1, 0, 5), 1, 9);
         ask.due("ways(), 0, 2 and 0, 8", desk.ways(), 5 + 1);
         ask.about("Terms, a part that is too long, ahead of a short one and behind it");
-        desk = opened(Checks.board(5, 8, 0, 2, 7, 36), 6, 8, 35);
+        desk = Checks.opened(Checks.board(5, 8, 0, 2, 7, 36), 6, 8, 35);
         ask.due("ways(), the long one ahead", desk.ways(), MineDesk.LONG);
         ask.due("with(36), the long one ahead", desk.with(36), MineDesk.LONG);
-        desk = opened(Checks.board(5, 8, 0, 1, 32, 27), 0, 31, 33);
+        desk = Checks.opened(Checks.board(5, 8, 0, 1, 32, 27), 0, 31, 33);
         ask.due("ways(), the long one behind", desk.ways(), MineDesk.LONG);
         ask.due("with(1), the long one behind", desk.with(1), MineDesk.LONG);
         ask.due("with(15), the long one behind", desk.with(15), MineDesk.LONG);
@@ -135,20 +126,20 @@ public final class ReasonEdgesTest {
     private static void sets() {
         ask.sentence("Terms", "WITH a cell: how many of these have it.");
         // 0 and 2 have one mine, 7 and 9 have one, and two are left to the cells apart.
-        MineDesk desk = opened(Checks.board(10, 1, 0, 0, 4, 5, 9), 1, 8);
+        MineDesk desk = Checks.opened(Checks.board(10, 1, 0, 0, 4, 5, 9), 1, 8);
         ask.due("ways()", desk.ways(), 2 * 2 * 6);
         ask.due("with(0)", desk.with(0), 2 * 6);
         ask.due("with(9)", desk.with(9), 2 * 6);
         ask.due("with(4)", desk.with(4), 2 * 2 * 3);
         // One mine among 1, 7 and 8, and two at 5 and 6, so that none is left to 4 and 11, nor to the cells apart.
-        desk = opened(Checks.board(7, 2, 0, 5, 6, 7), 0, 12, 13);
+        desk = Checks.opened(Checks.board(7, 2, 0, 5, 6, 7), 0, 12, 13);
         ask.due("ways(), different parts", desk.ways(), 3);
         int[] due = {MineDesk.STATE, 1, 0, 0, 0, 3, 3, 1, 1, 0, 0, 0, MineDesk.STATE, MineDesk.STATE};
         for (int cell = 0; cell < due.length; cell++) {
             ask.due("with(" + cell + "), different parts", desk.with(cell), due[cell]);
         }
         // The same the other way round.
-        desk = opened(Checks.board(7, 2, 0, 6, 7, 8), 13, 0, 1);
+        desk = Checks.opened(Checks.board(7, 2, 0, 6, 7, 8), 13, 0, 1);
         ask.due("ways(), different parts", desk.ways(), 3);
         int[] turned = {MineDesk.STATE, MineDesk.STATE, 0, 0, 0, 1, 1, 3, 3, 0, 0, 0, 1, MineDesk.STATE};
         for (int cell = 0; cell < turned.length; cell++) {
@@ -156,7 +147,7 @@ public final class ReasonEdgesTest {
         }
         // 12 mines of 12 cells.
         desk = Checks.board(6, 4, 0, 0, 1, 2, 3, 4, 5, 12, 13, 14, 15, 16, 17, 20);
-        opened(desk, 6, 7, 8, 9, 10, 11);
+        Checks.opened(desk, 6, 7, 8, 9, 10, 11);
         ask.due("ways(), 12 mines of 12 cells", desk.ways(), 6);
         ask.due("with(17), 12 mines of 12 cells", desk.with(17), 6);
         ask.due("with(18), 12 mines of 12 cells", desk.with(18), 1);
@@ -168,7 +159,7 @@ public final class ReasonEdgesTest {
         for (int i = 0; i < 18; i++) {
             mines[i] = i;
         }
-        MineDesk desk = opened(Checks.board(5, 7, 0, mines), 0);
+        MineDesk desk = Checks.opened(Checks.board(5, 7, 0, mines), 0);
         ask.due("ways(), 2333606220", desk.ways(), 333606206);
         ask.due("with(34), 1166803110", desk.with(34), 166803103);
         desk.open(1);
@@ -191,7 +182,7 @@ public final class ReasonEdgesTest {
 
     private static void takes() {
         ask.sentence("Promise 20", "The told reasons become those of the latest HINT (none, if there was none): how many cells.");
-        MineDesk desk = opened(Checks.board(4, 1, 0, 1), 0);
+        MineDesk desk = Checks.opened(Checks.board(4, 1, 0, 1), 0);
         told(desk, true, 2, 3);
         ask.due("take(), no hint", desk.take(), 0);
         ask.due("name(false), TOTAL went", desk.name(false), 0);
@@ -224,7 +215,7 @@ public final class ReasonEdgesTest {
 
     private static void tells() {
         ask.sentence("Promise 21", "A cell comes to the told reasons, or goes: 1 if that changes something, else 0.");
-        MineDesk desk = opened(Checks.board(10, 10, 0, 0, 11), 0, 1);
+        MineDesk desk = Checks.opened(Checks.board(10, 10, 0, 0, 11), 0, 1);
         int[] cells = {0, 1, 2, 63, 64, 99};
         for (int cell : cells) {
             ask.due("tell(" + cell + ", false)", desk.tell(cell, false), 0);
@@ -237,7 +228,7 @@ public final class ReasonEdgesTest {
         }
         ask.due("count(7), it is no move", desk.count(7), 2);
         ask.sentence("Promise 21", "NUMBER: there is no such cell.");
-        for (int cell : NO_CELLS) {
+        for (int cell : Checks.NO_CELLS) {
             ask.due("tell(" + cell + ", true)", desk.tell(cell, true), MineDesk.NUMBER);
             ask.due("tell(" + cell + ", false)", desk.tell(cell, false), MineDesk.NUMBER);
         }
@@ -268,7 +259,7 @@ public final class ReasonEdgesTest {
 
     private static void checkNone() {
         ask.sentence("Promise 23", "Whether the told reasons alone force a VERDICT (1 MINED, 0 SAFE) of a cell");
-        MineDesk desk = opened(Checks.board(5, 1, 0, 1), 0);
+        MineDesk desk = Checks.opened(Checks.board(5, 1, 0, 1), 0);
         ask.due("check(1, 1), nothing told", desk.check(1, 1), 0);
         ask.due("check(1, 0), nothing told", desk.check(1, 0), 0);
         desk.tell(0, true);
@@ -288,7 +279,7 @@ public final class ReasonEdgesTest {
         desk.tell(0, true);
         ask.due("check(1, 1), FLAGGED is HIDDEN", desk.check(1, 1), 1);
         ask.sentence("Promise 23", "or BLOWN, as its NUMBER says");
-        desk = opened(Checks.board(5, 1, 0, 1), 1, 2);
+        desk = Checks.opened(Checks.board(5, 1, 0, 1), 1, 2);
         desk.tell(2, true);
         ask.due("check(3, 0), 1 is BLOWN", desk.check(3, 0), 1);
         ask.due("check(3, 1), 1 is BLOWN", desk.check(3, 1), 0);
@@ -308,7 +299,7 @@ public final class ReasonEdgesTest {
         ask.due("check(2, 0), mines alone", desk.check(2, 0), 0);
         desk.open(0);
         ask.due("check(2, 1), one is BLOWN", desk.check(2, 1), 1);
-        desk = opened(Checks.board(3, 1, 0, 0), 0);
+        desk = Checks.opened(Checks.board(3, 1, 0, 0), 0);
         desk.name(true);
         ask.due("check(2, 0), the only one is BLOWN", desk.check(2, 0), 1);
         desk = Checks.board(3, 1, 0, 0, 1);
@@ -316,17 +307,17 @@ public final class ReasonEdgesTest {
         ask.due("check(2, 0), two of three", desk.check(2, 0), 0);
         ask.due("check(0, 1), two of three", desk.check(0, 1), 0);
         // 1 has both mines, or both but one.
-        desk = opened(Checks.board(4, 1, 0, 0, 2), 1);
+        desk = Checks.opened(Checks.board(4, 1, 0, 0, 2), 1);
         told(desk, true, 1);
         ask.due("check(3, 0), none is left", desk.check(3, 0), 1);
         desk.name(false);
         ask.due("check(3, 0), TOTAL isn't told", desk.check(3, 0), 0);
-        desk = opened(Checks.board(4, 1, 0, 0, 3), 1);
+        desk = Checks.opened(Checks.board(4, 1, 0, 0, 3), 1);
         told(desk, true, 1);
         ask.due("check(3, 1), one is left of one", desk.check(3, 1), 1);
         desk.name(false);
         ask.due("check(3, 1), TOTAL isn't told", desk.check(3, 1), 0);
-        desk = opened(Checks.board(5, 1, 0, 0, 3), 1);
+        desk = Checks.opened(Checks.board(5, 1, 0, 0, 3), 1);
         told(desk, true, 1);
         ask.due("check(3, 1), one is left of two", desk.check(3, 1), 0);
         ask.due("check(3, 0), one is left of two", desk.check(3, 0), 0);
@@ -344,7 +335,7 @@ public final class ReasonEdgesTest {
         ask.due("check(1, 1), 0 is OPEN", desk.check(1, 1), 1);
         desk.undo();
         ask.due("check(1, 1), 0 is HIDDEN again", desk.check(1, 1), 0);
-        desk = opened(Checks.board(3, 3, 0, 4), 4);
+        desk = Checks.opened(Checks.board(3, 3, 0, 4), 4);
         desk.tell(4, true);
         ask.due("check(0, 0), 4 is BLOWN, with the NUMBER 0", desk.check(0, 0), 0);
         // 15 cells and more around cells that aren't OPEN.
@@ -363,8 +354,8 @@ public final class ReasonEdgesTest {
 
     private static void checkRefused() {
         ask.sentence("Promise 23", "NUMBER: there is no such cell, or the verdict isn't 0, 1");
-        MineDesk desk = opened(Checks.board(10, 10, 0, 1, 50), 0, 50);
-        for (int cell : NO_CELLS) {
+        MineDesk desk = Checks.opened(Checks.board(10, 10, 0, 1, 50), 0, 50);
+        for (int cell : Checks.NO_CELLS) {
             ask.due("check(" + cell + ", 0)", desk.check(cell, 0), MineDesk.NUMBER);
             ask.due("check(" + cell + ", 1)", desk.check(cell, 1), MineDesk.NUMBER);
             ask.due("check(" + cell + ", 2)", desk.check(cell, 2), MineDesk.NUMBER);
@@ -419,6 +410,20 @@ public final class ReasonEdgesTest {
         ask.due("check(7, 0), OPEN, with 14 cells", desk.check(7, 0), MineDesk.STATE);
         ask.due("check(35, 0), with 14 cells", desk.check(35, 0), MineDesk.NUMBER);
         ask.due("check(28, 2), the 15th", desk.check(28, 2), MineDesk.NUMBER);
+        // The same one row further down, so that 0 is apart.
+        desk = new MineDesk();
+        desk.blank(7, 5, 0);
+        for (int c = 0; c < 7; c++) {
+            desk.edit(7 + c, true);
+        }
+        for (int cell = 14; cell < 21; cell++) {
+            desk.open(cell);
+            desk.tell(cell, true);
+        }
+        ask.due("check(7, 1), one of 14", desk.check(7, 1), 0);
+        ask.due("check(27, 0), one of 14", desk.check(27, 0), 0);
+        ask.due("check(0, 0), the 15th", desk.check(0, 0), MineDesk.LONG);
+        ask.due("check(34, 0), the 15th", desk.check(34, 0), MineDesk.LONG);
         // 14 mines of 14 cells, and of 13 with one beside them.
         desk = new MineDesk();
         desk.blank(7, 4, 0);
@@ -439,7 +444,7 @@ public final class ReasonEdgesTest {
         desk.name(true);
         ask.due("check(27, 0), the 14th, and TOTAL", desk.check(27, 0), 1);
         // 8 + 8 cells, of which 3 are those of both.
-        desk = opened(Checks.board(5, 5, 0, 2, 7), 6, 8);
+        desk = Checks.opened(Checks.board(5, 5, 0, 2, 7), 6, 8);
         told(desk, false, 6, 8);
         ask.due("check(0, 0), one of 13", desk.check(0, 0), 0);
         ask.due("check(24, 0), the 14th", desk.check(24, 0), 0);
@@ -449,14 +454,14 @@ public final class ReasonEdgesTest {
 
     private static void counts() {
         ask.sentence("Promise 24", "LONG: the BOARD is TOO LONG.");
-        ask.due("ways(), 13 cells", opened(Checks.board(5, 3, 0, 2, 7), 6, 8).ways(), MineDesk.LONG);
-        ask.due("ways(), 12 cells", opened(Checks.board(5, 3, 0, 2, 7), 6, 8, 2).ways(), 2);
-        ask.due("ways(), nothing HIDDEN", opened(Checks.board(1, 1, 0), 0).ways(), 1);
-        ask.due("ways(), all BLOWN", opened(Checks.board(1, 1, 0, 0), 0).ways(), 1);
+        ask.due("ways(), 13 cells", Checks.opened(Checks.board(5, 3, 0, 2, 7), 6, 8).ways(), MineDesk.LONG);
+        ask.due("ways(), 12 cells", Checks.opened(Checks.board(5, 3, 0, 2, 7), 6, 8, 2).ways(), 2);
+        ask.due("ways(), nothing HIDDEN", Checks.opened(Checks.board(1, 1, 0), 0).ways(), 1);
+        ask.due("ways(), all BLOWN", Checks.opened(Checks.board(1, 1, 0, 0), 0).ways(), 1);
         ask.due("ways(), no mine", Checks.board(10, 10, 0).ways(), 1);
         ask.sentence("Promise 25", "NUMBER: there is no such cell");
-        MineDesk desk = opened(Checks.board(10, 10, 0, 1, 50), 0, 50);
-        for (int cell : NO_CELLS) {
+        MineDesk desk = Checks.opened(Checks.board(10, 10, 0, 1, 50), 0, 50);
+        for (int cell : Checks.NO_CELLS) {
             ask.due("with(" + cell + ")", desk.with(cell), MineDesk.NUMBER);
         }
         ask.sentence("Promise 25", "STATE: it isn't HIDDEN");
@@ -470,7 +475,7 @@ public final class ReasonEdgesTest {
         ask.due("with(6), 6 cells", desk.with(6), MineDesk.NUMBER);
         ask.due("with(5), 6 cells, no mine", desk.with(5), 0);
         ask.sentence("Promise 25", "LONG: the BOARD is TOO LONG.");
-        desk = opened(Checks.board(5, 4, 0, 2, 7), 6, 8);
+        desk = Checks.opened(Checks.board(5, 4, 0, 2, 7), 6, 8);
         ask.due("with(0), 13 cells", desk.with(0), MineDesk.LONG);
         ask.due("with(19), 13 cells, apart from these", desk.with(19), MineDesk.LONG);
         ask.due("with(6), OPEN, 13 cells", desk.with(6), MineDesk.STATE);

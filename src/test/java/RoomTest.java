@@ -10,7 +10,7 @@ public final class RoomTest {
     private static long made() {
         java.lang.management.ThreadMXBean threads = ManagementFactory.getThreadMXBean();
         if (threads instanceof com.sun.management.ThreadMXBean counting) {
-            return counting.getThreadAllocatedBytes(Thread.currentThread().getId());
+            return counting.getCurrentThreadAllocatedBytes();
         }
         return 0L;
     }
